@@ -208,8 +208,7 @@ public final class FerriedInWords {
     }
 
     private boolean isAskedOfRun(int what) {
-        if (what == 0 || what == 1) return true;
-        return what < 20 ? what >= 10 && now.isThere(what - 10) : what < 30 && now.isThere(what - 20);
+        return what == 0 || what == 1 || now.isThere(what - 10) || now.isThere(what - 20);
     }
 
     private Teller kindOf(One one) {

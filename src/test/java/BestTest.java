@@ -135,6 +135,11 @@ public final class BestTest {
         learns(z, Due.bits(1, 3), 0, 0);
         learns(z, Due.bits(1), -1, -1);
         learns(z, 0, -1, -1);
+        FerriedInWords a = new FerriedInWords();
+        for (int i = 0; i < 5; i++) a.person(Due.TELLER, 0, 0, 10);
+        learns(a, 1023, 1023, 10);
+        learns(a, 1022, 1022, 9);
+        learns(a, 512, 512, 1);
     }
 
     private static void froms(FerriedInWords x, int thing, int many, int least) {

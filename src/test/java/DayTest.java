@@ -69,8 +69,10 @@ public final class DayTest {
         for (int who : new int[] {1, -1, 5, 256, Due.MAX, Due.MIN}) {
             Due.lists(x, 2, Due.INTS, 0, who);
             Due.due("over who isn't there", x.over(2, 0, 0), -2);
+            Due.lists(x, 2, Due.INTS, who, 0);
+            Due.due("over who isn't there, at first", x.over(2, 0, 0), -2);
         }
-        x.cell(2, 1, 0);
+        x.cell(2, 0, 0);
         Due.due("over now", x.over(2, 7, 0), 3);
     }
 

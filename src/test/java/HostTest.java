@@ -37,8 +37,9 @@ public final class HostTest {
             Due.due("sheet", x.sheet(sort, sort, 3), 1);
             holds(x, sort, sort, 0, 0, 0);
             Due.due("item 2", x.cell(sort, 2, 5), 1);
+            Due.due("item 0", x.cell(sort, 0, 6), 1);
             Due.due("item 3", x.cell(sort, 3, 5), -12);
-            holds(x, sort, sort, 0, 0, 5);
+            holds(x, sort, sort, 6, 0, 5);
             Due.due("anew", x.sheet(sort, sort, 4), 1);
             holds(x, sort, sort, 0, 0, 0, 0);
             Due.due("of 40", x.sheet(sort, sort, 40), 1);

@@ -10,6 +10,7 @@ public final class TextTest {
         names();
         faults();
         faultsOfTokens();
+        faultsBehindOthers();
         fiveOpen();
         force();
         Due.end();
@@ -109,7 +110,12 @@ public final class TextTest {
         sum("2 and 4", 1);
         sum("2 and 0", 0);
         sum("0 and 0", 0);
+        sum("1 and 1", 1);
         sum("1 and 2 and 3", 1);
+        sum("(0 and 1)+1", 1);
+        sum("(0 or 0)+1", 1);
+        sum("(3<2)+1", 1);
+        sum("(3=2)+1", 1);
         sum("0 or 7", 1);
         sum("7 or 0", 1);
         sum("0 or 0", 0);
@@ -230,6 +236,11 @@ public final class TextTest {
         faultAt("|keep 1;");
         faultAt("keeps |word;");
         faultAt("keeps |wordss;");
+        faultAt("keeps |wordsz;");
+        faultAt("keeps |wordsa;");
+        faultAt("keeps |xords;");
+        faultAt("|xeeps 1;");
+        faultAt("|keepx 1;");
         faultAt("keeps |orwords;");
         faultAt("keeps 1 |notes;");
         faultAt("keeps |12345;");
@@ -250,6 +261,20 @@ public final class TextTest {
         faultAt("keeps 1|`");
         faultAt("keeps 1|/2;");
         faultAt("keeps 1|:");
+    }
+
+    /** What stood on the tape ahead, and what was read of it, is of no text that comes behind. */
+    private static void faultsBehindOthers() {
+        FerriedInWords x = new FerriedInWords();
+        Due.due("five digits", Due.reads(x, "keeps 12345"), -106);
+        Due.due("four digits", Due.reads(x, "keeps 1234"), -110);
+        Due.due("no word", Due.reads(x, "keeps notx"), -106);
+        Due.due("a word", Due.reads(x, "keeps not"), -109);
+        String sum = "keeps 1" + "+1".repeat(76);
+        for (int i = 0; i < 4; i++) Due.due("a long fault", Due.reads(x, sum), -100 - sum.length());
+        x.person(Due.TELLER, 0, 0, 0);
+        Due.rules(x, "6", "0", "0");
+        Due.due("keeps 6", x.asks(0, 0, 1), 6);
     }
 
     private static void fiveOpen() {
