@@ -32,7 +32,8 @@ public final class FerriedInWords {
     /** Codes of a text that has been read, behind one another as they are worked; a number is its own code. */
     private static final int GET_WORDS = -1, GET_MEMORY = -2, GET_NUMBER = -3, GET_DAY = -4, GET_PARTS = -5, GET_SAID = -6;
     private static final int DO_NOT = -11, DO_TURN = -12;
-    private static final int DO_OR = -21, DO_AND = -22, DO_LESS = -23, DO_LIKE = -24, DO_PLUS = -25, DO_LESSEN = -26, DO_TIMES = -27;
+    private static final int DO_OR = -21, DO_AND = -22, DO_LESS = -23, DO_LIKE = -24;
+    private static final int DO_PLUS = -25, DO_LESSEN = -26, DO_TIMES = -27;
 
     private final Teller[] kinds = new Teller[KINDS];
     private final Crossing now = new Crossing();
@@ -312,8 +313,8 @@ public final class FerriedInWords {
             return;
         }
         for (int i = 0; i < now.there; i++) {
-            if ((taken >> i & 1) != 0) continue;
-            tryRows(thing, telling(now, now.people[i], comes), digits * 10 + i + 1, taken | 1 << i, more - 1);
+            if ((taken & (1 << i)) != 0) continue;
+            tryRows(thing, telling(now, now.people[i], comes), digits * 10 + i + 1, taken | (1 << i), more - 1);
         }
     }
 
@@ -629,7 +630,7 @@ public final class FerriedInWords {
         }
 
         int wordsFor(One one, int thing, int keeps) {
-            return super.wordsFor(one, thing, keeps) | 1 << one.number;
+            return super.wordsFor(one, thing, keeps) | (1 << one.number);
         }
 
         int wearies(int v, One one) {
@@ -652,7 +653,7 @@ public final class FerriedInWords {
 
         int wordsFor(One one, int thing, int keeps) {
             int comes = super.wordsFor(one, thing, keeps);
-            return comes | comes << 1 & thing;
+            return comes | (comes << 1 & thing);
         }
 
         int wearies(int v, One one) {
@@ -670,7 +671,7 @@ public final class FerriedInWords {
         }
 
         int wordsFor(One one, int thing, int keeps) {
-            return super.wordsFor(one, thing, keeps) ^ 1 << MOST_NUMBER - one.number;
+            return super.wordsFor(one, thing, keeps) ^ (1 << (MOST_NUMBER - one.number));
         }
 
         int wearies(int v, One one) {
@@ -693,7 +694,7 @@ public final class FerriedInWords {
 
         int wordsFor(One one, int thing, int keeps) {
             int comes = super.wordsFor(one, thing, keeps);
-            return comes == 0 ? 0 : comes | one.words & lowest(comes) - 1;
+            return comes == 0 ? 0 : comes | (one.words & (lowest(comes) - 1));
         }
 
         int wearies(int v, One one) {
