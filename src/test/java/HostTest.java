@@ -15,19 +15,12 @@ public final class HostTest {
         Due.end();
     }
 
-    /** What a sheet holds at a place, of 0 .. 1023: as words of one who comes by it, in an object that has none. */
     private static int held(FerriedInWords x, int sheet, int sort, int i) {
-        x.image();
-        x.sheet(3, sort, 4);
-        x.copy(sheet, i, 3, 2, 1);
-        int came = x.crew(3, sort, 0, 1);
-        int words = came == 1 ? x.told(x.count(0) - 1, 2) : came - 1;
-        x.back();
-        return words;
+        return Due.held(x, sheet, sort, i, 3);
     }
 
     private static void holds(FerriedInWords x, int sheet, int sort, int... numbers) {
-        for (int i = 0; i < numbers.length; i++) Due.due("item " + i, held(x, sheet, sort, i), numbers[i]);
+        Due.holds(x, sheet, sort, 3, numbers);
     }
 
     private static void sheet() {
