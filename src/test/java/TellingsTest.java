@@ -16,6 +16,7 @@ public final class TellingsTest {
         off();
         toAndFroAtFirstToo();
         toAndFroTimes();
+        toAndFroFar();
         rowOfOneToThree();
         rowOfLikeOnes();
         rowOfNobody();
@@ -174,6 +175,26 @@ public final class TellingsTest {
         Due.due("and tires by 2 parts", x.told(0, 3), 8);
         Due.due("the second one is told 0, and learns it", x.told(1, 2), 3);
         Due.due("and tires by 1 part", x.told(1, 3), 9);
+        FerriedInWords y = Due.with(Due.TELLER, 0, Due.bits(0), 10);
+        Due.rules(y, "10*(words=1)", "words+9*said", "memory=10");
+        y.brings(7);
+        Due.due("tells by the words ahead", y.day(), 1);
+        Due.due("tires by the words and by said ahead", y.told(0, 3), 9);
+        Due.due("learns by the memory ahead", y.told(0, 2), 3);
+        FerriedInWords z = Due.with(Due.TELLER, 0, Due.ALL, 10);
+        Due.rules(z, "memory-9", "said+4", "said=0");
+        z.set(2, 0, 1022);
+        z.brings(1023);
+        Due.due("tells by the memory ahead", z.day(), 2);
+        Due.due("tires by said ahead", z.told(0, 3), 6);
+        Due.due("learns by said ahead", z.told(0, 2), 1023);
+        FerriedInWords d = Due.with(Due.TELLER, 0, Due.ALL, 10);
+        Due.rules(d, "day+1", "day", "day");
+        d.set(2, 0, 1022);
+        d.brings(1023);
+        Due.due("tells by the day ahead", d.day(), 2);
+        Due.due("tires by the day ahead", d.told(0, 3), 10);
+        Due.due("learns by the day ahead", d.told(0, 2), 1022);
     }
 
     private static void oneNearer() {
@@ -247,6 +268,28 @@ public final class TellingsTest {
         for (int parts = 1; parts <= 10; parts++) {
             Due.due("of " + parts, x.fro((1 << parts) - 1, 0), parts + 1);
             Due.due("of " + parts + ", what it is", x.fro((1 << parts) - 1, 1), 0);
+        }
+    }
+
+    /** The longest way that a search among people and texts has found: none that ends in NONE is known. */
+    private static void toAndFroFar() {
+        Due.promise("TO AND FRO: behind how many times (1 .. 60), of many");
+        FerriedInWords x = new FerriedInWords();
+        String drawn = "((memory+parts*said)*";
+        Due.rules(x, drawn + "6816*6635<0)*7+" + drawn + "3060*2066<0)*4+" + drawn + "6547*3716<0)*2", "0", "0");
+        x.set(0, 0, 1);
+        int[][] people = {{1, 9, 1023, 40, 44}, {4, 6, 1005, 39, 53}, {3, 8, 767, 90, 53}, {2, 7, 877, 3, 54}, {4, 8, 1023, 36, 88}};
+        for (int i = 0; i < 5; i++) {
+            int[] p = people[i];
+            x.person(p[0], p[1], p[2], p[3]);
+            x.set(4, i, p[4]);
+        }
+        int[] things = {251, 121, 59, 25, 11, 1, 0};
+        int[] times = {43, 40, 37, 34, 31, 29, 28};
+        int[] is = {0, 0, 0, 0, 0, 259, 0};
+        for (int i = 0; i < 7; i++) {
+            Due.due("of " + things[i], x.fro(things[i], 0), times[i]);
+            Due.due("of " + things[i] + ", what it is", x.fro(things[i], 1), is[i]);
         }
     }
 
