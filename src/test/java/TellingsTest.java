@@ -275,21 +275,20 @@ public final class TellingsTest {
     private static void toAndFroFar() {
         Due.promise("TO AND FRO: behind how many times (1 .. 60), of many");
         FerriedInWords x = new FerriedInWords();
-        String drawn = "((memory+parts*said)*";
-        Due.rules(x, drawn + "6816*6635<0)*7+" + drawn + "3060*2066<0)*4+" + drawn + "6547*3716<0)*2", "0", "0");
+        String odd = "(parts*8192*8192*32<0)";
+        Due.rules(x, "memory+said*" + odd + "+2*(parts=6)-memory*(parts=9)-words*(parts=2)+4*(parts=8)+said*(parts=10)", "0", "0");
         x.set(0, 0, 1);
-        int[][] people = {{1, 9, 1023, 40, 44}, {4, 6, 1005, 39, 53}, {3, 8, 767, 90, 53}, {2, 7, 877, 3, 54}, {4, 8, 1023, 36, 88}};
+        int[][] people = {{Due.LOVER, 6, 1021, 6, 17}, {Due.ENGINEER, 7, 989, 3, 12}, {Due.FATHER, 9, 1023, 1, 7},
+            {Due.LIAR, 8, 767, 1, 6}, {Due.FATHER, 7, 1023, 2, 12}};
         for (int i = 0; i < 5; i++) {
             int[] p = people[i];
             x.person(p[0], p[1], p[2], p[3]);
             x.set(4, i, p[4]);
         }
-        int[] things = {251, 121, 59, 25, 11, 1, 0};
-        int[] times = {43, 40, 37, 34, 31, 29, 28};
-        int[] is = {0, 0, 0, 0, 0, 259, 0};
-        for (int i = 0; i < 7; i++) {
-            Due.due("of " + things[i], x.fro(things[i], 0), times[i]);
-            Due.due("of " + things[i] + ", what it is", x.fro(things[i], 1), is[i]);
+        int[][] thingTimesAndIs = {{889, 53, 897}, {500, 44, 903}, {1000, 35, 909}, {0, 32, 898}, {400, 32, 927}};
+        for (int[] t : thingTimesAndIs) {
+            Due.due("of " + t[0], x.fro(t[0], 0), t[1]);
+            Due.due("of " + t[0] + ", what it is", x.fro(t[0], 1), t[2]);
         }
     }
 
